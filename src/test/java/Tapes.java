@@ -1,0 +1,32 @@
+/** Puts texts and rows on an object's tape; the tape has to be empty. */
+final class Tapes {
+    private Tapes() {
+    }
+
+    static void put(LakeWatch x, int... bytes) {
+        for (int from = 0; from < bytes.length; from += 20) {
+            int[] numbers = new int[5];
+            for (int i = 0; i < 20; i++) {
+                int sign = from + i < bytes.length ? bytes[from + i] : 0;
+                numbers[i / 4] = numbers[i / 4] << 8 | sign;
+            }
+            x.feed(numbers[0], numbers[1], numbers[2], numbers[3], numbers[4]);
+        }
+        x.end(bytes.length);
+    }
+
+    static void put(LakeWatch x, String text) {
+        put(x, text.chars().toArray());
+    }
+
+    static int law(LakeWatch x, String text) {
+        put(x, text);
+        return x.law();
+    }
+
+    /** What one sum tells of a sight, asked as the odds of "made" against a joke of one more. */
+    static int grewBy(LakeWatch x, int sight, String sumAndTest) {
+        law(x, "grow " + sumAndTest);
+        return x.of(sight, 8);
+    }
+}
