@@ -866,7 +866,7 @@ public final class LakeWatch {
         static final int SKIP_IF_SO = 10;
         static final int SKIP_IF_NOT_SO = 11;
 
-        // No token makes more than one step, so there are no more steps than bytes on a tape.
+        // No token makes more than one step, so there are no more of them than bytes on a tape.
         private final int[] kinds = new int[MOST_BYTES];
         private final int[] values = new int[MOST_BYTES];
         private int steps = 0;
@@ -938,42 +938,153 @@ public final class LakeWatch {
         }
     }
 
-    /**
-     * Reads a TEXT into a Law, one token ahead. After a FAULT no token is taken any more,
-     * so that all that is open ends at once.
-     */
+    /** A TEXT cut into TOKENS; behind them stands its END. */
+    private static final class Tokens {
+        static final int END = 0;
+        static final int WORD = 1;
+        static final int NUMBER = 2;
+        static final int SIGN = 3;
+
+        // Heads in the order of the CAUSES, GREW behind them; then what an Asker knows, in its order; then the rest.
+        private static final String WORDS =
+                "wake beast log bent made grow humps length wind bend news gone place minute late if or and not";
+        static final int LAST_HEAD = 5;
+        static final int FIRST_PART_WORD = 6;
+        static final int LAST_PART_WORD = 14;
+        static final int IF = 15;
+        static final int OR = 16;
+        static final int AND = 17;
+        static final int NOT = 18;
+
+        static final int MOST_VALUE = 100000;
+
+        private final int[] kinds = new int[MOST_BYTES + 1];
+        private final int[] values = new int[MOST_BYTES + 1];
+        private final int[] places = new int[MOST_BYTES + 1];
+        private int tokens = 0;
+
+        void cut(Tape tape) {
+            tokens = 0;
+            int at = 0;
+            for (int n = 0; n < MOST_BYTES && at < tape.size(); n++) {
+                int next = endOfToken(tape, at);
+                if (tape.at(at) != ' ') {
+                    addToken(tape, at, next);
+                }
+                at = next;
+            }
+            addToken(tape, at, at);
+        }
+
+        boolean isAt(int token, int kind, int value) {
+            boolean isThere = token >= 0 && token < tokens && token < kinds.length;
+            return isThere && kinds[token] == kind && values[token] == value;
+        }
+
+        /** Behind the last token all is END. */
+        int kindOf(int token) {
+            return token >= 0 && token < tokens && token < kinds.length ? kinds[token] : END;
+        }
+
+        /** A word's place in the list of words (NONE, if it is not there), a number itself, a sign's byte. */
+        int valueOf(int token) {
+            return token >= 0 && token < tokens && token < values.length ? values[token] : NONE;
+        }
+
+        int placeOf(int token) {
+            return token >= 0 && token < tokens && token < places.length ? places[token] : NONE;
+        }
+
+        private void addToken(Tape tape, int from, int to) {
+            if (tokens < kinds.length) {
+                int kind = kindOfByte(tape.at(from));
+                kinds[tokens] = kind;
+                places[tokens] = from;
+                values[tokens] = kind == WORD ? wordAt(tape, from, to)
+                        : kind == NUMBER ? numberAt(tape, from, to) : tape.at(from);
+                tokens++;
+            }
+        }
+
+        private static int endOfToken(Tape tape, int from) {
+            int kind = kindOfByte(tape.at(from));
+            int to = from + 1;
+            while (kind != SIGN && to < tape.size() && kindOfByte(tape.at(to)) == kind) {
+                to++;
+            }
+            return to;
+        }
+
+        private static int kindOfByte(int sign) {
+            if (sign == NONE) {
+                return END;
+            }
+            if (within(sign, 'a', 'z')) {
+                return WORD;
+            }
+            return within(sign, '0', '9') ? NUMBER : SIGN;
+        }
+
+        /** One above MOST_VALUE for all that are above it, lest a long row of digits overflow. */
+        private static int numberAt(Tape tape, int from, int to) {
+            int number = 0;
+            for (int at = from; at < to; at++) {
+                number = Math.min(number * 10 + tape.at(at) - '0', MOST_VALUE + 1);
+            }
+            return number;
+        }
+
+        private static int wordAt(Tape tape, int from, int to) {
+            int place = 0;
+            int begin = 0;
+            for (int end = 0; end <= WORDS.length(); end++) {
+                if (end == WORDS.length() || WORDS.charAt(end) == ' ') {
+                    if (end - begin == to - from && isAlike(tape, from, begin, end)) {
+                        return place;
+                    }
+                    place++;
+                    begin = end + 1;
+                }
+            }
+            return NONE;
+        }
+
+        private static boolean isAlike(Tape tape, int from, int begin, int end) {
+            for (int at = begin; at < end && at < WORDS.length(); at++) {
+                if (WORDS.charAt(at) != tape.at(from + at - begin)) {
+                    return false;
+                }
+            }
+            return true;
+        }
+    }
+
+    /** Reads a TEXT into a Law. After a FAULT no token is taken any more, so that all that is open ends at once. */
     private static final class LawReader {
         private static final int MOST_PARTS = 50;
         private static final int MOST_BRACKETS = 8;
-        private static final int MOST_VALUE = 100000;
 
-        private static final int END = 0;
-        private static final int LETTERS = 1;
-        private static final int DIGITS = 2;
-        private static final int SIGN = 3;
-
-        // Their order is that of the CAUSES, GREW behind them.
-        private static final String HEADS = "wake beast log bent made grow";
-        // Their order is that of the words of an Asker.
-        private static final String WORDS = "humps length wind bend news gone place minute late";
-
+        private final Tokens tokens = new Tokens();
         private final Law law = new Law();
-        // Empty until there is a text to read, so that it is never null.
-        private Tape tape = new Tape();
-        private int tokenKind = END;
-        private int tokenFrom = 0;
-        private int tokenTo = 0;
+        private int at = 0;
         private int parts = 0;
         private int faultAt = NONE;
 
-        void read(Tape text) {
-            tape = text;
+        void read(Tape tape) {
+            tokens.cut(tape);
             law.clear();
-            tokenTo = 0;
+            at = 0;
             parts = 0;
             faultAt = NONE;
-            advance();
-            clauses();
+            clause();
+            for (int n = 1; n < Law.MOST_CLAUSES && take(Tokens.SIGN, ';'); n++) {
+                clause();
+            }
+            if (tokens.kindOf(at) != Tokens.END) {
+                // Behind the last clause that there may be, it is what comes behind the sign that can't go on.
+                take(Tokens.SIGN, ';');
+                fail();
+            }
         }
 
         /** NONE, if the latest text was a LAW. */
@@ -986,30 +1097,17 @@ public final class LakeWatch {
             return law;
         }
 
-        private void clauses() {
-            for (int clause = 0; clause < Law.MOST_CLAUSES; clause++) {
-                clause();
-                if (faultAt != NONE || tokenKind == END) {
-                    return;
-                }
-                if (takeSign(";") == NONE) {
-                    fail();
-                    return;
-                }
-            }
-            fail();
-        }
-
         private void clause() {
-            int head = takeWord(HEADS);
-            if (head == NONE) {
+            int head = tokens.valueOf(at);
+            if (tokens.kindOf(at) != Tokens.WORD || !within(head, 0, Tokens.LAST_HEAD)) {
                 fail();
                 return;
             }
+            at++;
             int sumFrom = law.steps();
             sum(0);
             int testFrom = law.steps();
-            if (takeWord("if") != NONE) {
+            if (take(Tokens.WORD, Tokens.IF)) {
                 test(0);
             }
             law.addClause(head, sumFrom, testFrom);
@@ -1017,7 +1115,7 @@ public final class LakeWatch {
 
         private void test(int depth) {
             both(depth);
-            for (int n = 0; n < MOST_BYTES && takeWord("or") != NONE; n++) {
+            for (int n = 0; n < MOST_BYTES && take(Tokens.WORD, Tokens.OR); n++) {
                 int skip = law.addStep(Law.SKIP_IF_SO, 0);
                 both(depth);
                 law.letSkipEndHere(skip);
@@ -1026,7 +1124,7 @@ public final class LakeWatch {
 
         private void both(int depth) {
             plain(depth);
-            for (int n = 0; n < MOST_BYTES && takeWord("and") != NONE; n++) {
+            for (int n = 0; n < MOST_BYTES && take(Tokens.WORD, Tokens.AND); n++) {
                 int skip = law.addStep(Law.SKIP_IF_NOT_SO, 0);
                 plain(depth);
                 law.letSkipEndHere(skip);
@@ -1036,10 +1134,10 @@ public final class LakeWatch {
         /** Counts the "not"s ahead instead of calling itself: a tape has room for many. */
         private void plain(int depth) {
             boolean turned = false;
-            for (int n = 0; n < MOST_BYTES && takeWord("not") != NONE; n++) {
+            for (int n = 0; n < MOST_BYTES && take(Tokens.WORD, Tokens.NOT); n++) {
                 turned = !turned;
             }
-            if (isSign("(")) {
+            if (tokens.isAt(at, Tokens.SIGN, '(')) {
                 testInBrackets(depth + 1);
             } else {
                 comparison(depth);
@@ -1054,55 +1152,59 @@ public final class LakeWatch {
                 fail();
                 return;
             }
-            takeSign("(");
+            take(Tokens.SIGN, '(');
             test(depth);
-            if (takeSign(")") == NONE) {
+            if (!take(Tokens.SIGN, ')')) {
                 fail();
             }
         }
 
         private void comparison(int depth) {
             sum(depth);
-            int sign = takeSign("<>=");
-            if (sign == NONE) {
+            int kind = take(Tokens.SIGN, '<') ? Law.LESS
+                    : take(Tokens.SIGN, '>') ? Law.GREATER
+                    : take(Tokens.SIGN, '=') ? Law.EQUAL : NONE;
+            if (kind == NONE) {
                 fail();
                 return;
             }
             sum(depth);
-            law.addStep(Law.LESS + sign, 0);
+            law.addStep(kind, 0);
         }
 
         private void sum(int depth) {
             term(depth);
             for (int n = 0; n < MOST_BYTES; n++) {
-                int sign = takeSign("+-");
-                if (sign == NONE) {
+                int kind = take(Tokens.SIGN, '+') ? Law.ADD : take(Tokens.SIGN, '-') ? Law.SUBTRACT : NONE;
+                if (kind == NONE) {
                     return;
                 }
                 term(depth);
-                law.addStep(Law.ADD + sign, 0);
+                law.addStep(kind, 0);
             }
         }
 
         private void term(int depth) {
             part(depth);
             for (int n = 0; n < MOST_BYTES; n++) {
-                int sign = takeSign("*/");
-                if (sign == NONE) {
+                int kind = take(Tokens.SIGN, '*') ? Law.MULTIPLY : take(Tokens.SIGN, '/') ? Law.DIVIDE : NONE;
+                if (kind == NONE) {
                     return;
                 }
                 part(depth);
-                law.addStep(Law.MULTIPLY + sign, 0);
+                law.addStep(kind, 0);
             }
         }
 
         private void part(int depth) {
-            if (isSign("[")) {
+            int value = tokens.valueOf(at);
+            int kind = tokens.kindOf(at);
+            if (tokens.isAt(at, Tokens.SIGN, '[')) {
                 sumInBrackets(depth + 1);
-            } else if (tokenKind == DIGITS && numberOfToken() <= MOST_VALUE) {
-                countedPart(Law.PUSH_NUMBER, numberOfToken());
-            } else if (placeOfToken(WORDS) != NONE) {
-                countedPart(Law.PUSH_WORD, placeOfToken(WORDS));
+            } else if (kind == Tokens.NUMBER && value <= Tokens.MOST_VALUE) {
+                countedPart(Law.PUSH_NUMBER, value);
+            } else if (kind == Tokens.WORD && within(value, Tokens.FIRST_PART_WORD, Tokens.LAST_PART_WORD)) {
+                countedPart(Law.PUSH_WORD, value - Tokens.FIRST_PART_WORD);
             } else {
                 fail();
             }
@@ -1113,117 +1215,35 @@ public final class LakeWatch {
                 fail();
                 return;
             }
-            takeSign("[");
+            take(Tokens.SIGN, '[');
             sum(depth);
-            if (takeSign("]") == NONE) {
+            if (!take(Tokens.SIGN, ']')) {
                 fail();
             }
         }
 
         private void countedPart(int kind, int value) {
-            if (parts >= MOST_PARTS || faultAt != NONE) {
+            if (parts >= MOST_PARTS) {
                 fail();
                 return;
             }
             parts++;
             law.addStep(kind, value);
-            advance();
+            at++;
         }
 
         private void fail() {
             if (faultAt == NONE) {
-                faultAt = tokenFrom;
+                faultAt = tokens.placeOf(at);
             }
         }
 
-        /** Which of the words in the list the token is, and then the next token; NONE if it is none of them. */
-        private int takeWord(String list) {
-            int place = faultAt == NONE ? placeOfToken(list) : NONE;
-            if (place != NONE) {
-                advance();
-            }
-            return place;
-        }
-
-        /** The same for single signs. */
-        private int takeSign(String signs) {
-            if (faultAt != NONE || !isSign(signs)) {
-                return NONE;
-            }
-            int place = signs.indexOf((char) tape.at(tokenFrom));
-            advance();
-            return place;
-        }
-
-        private boolean isSign(String signs) {
-            return tokenKind == SIGN && signs.indexOf((char) tape.at(tokenFrom)) >= 0;
-        }
-
-        /** The token's number, or one above MOST_VALUE for all that are above it. */
-        private int numberOfToken() {
-            int number = 0;
-            for (int at = tokenFrom; at < tokenTo; at++) {
-                number = Math.min(number * 10 + tape.at(at) - '0', MOST_VALUE + 1);
-            }
-            return number;
-        }
-
-        private int placeOfToken(String list) {
-            if (tokenKind != LETTERS) {
-                return NONE;
-            }
-            int place = 0;
-            int from = 0;
-            for (int at = 0; at <= list.length(); at++) {
-                if (at == list.length() || list.charAt(at) == ' ') {
-                    if (isToken(list, from, at)) {
-                        return place;
-                    }
-                    place++;
-                    from = at + 1;
-                }
-            }
-            return NONE;
-        }
-
-        private boolean isToken(String list, int from, int to) {
-            if (to - from != tokenTo - tokenFrom) {
-                return false;
-            }
-            for (int at = from; at < to && at < list.length(); at++) {
-                if (list.charAt(at) != tape.at(tokenFrom + at - from)) {
-                    return false;
-                }
-            }
-            return true;
-        }
-
-        private void advance() {
-            int at = tokenTo;
-            while (at < tape.size() && tape.at(at) == ' ') {
+        private boolean take(int kind, int value) {
+            boolean taken = faultAt == NONE && tokens.isAt(at, kind, value);
+            if (taken) {
                 at++;
             }
-            tokenFrom = at;
-            tokenKind = kindOf(tape.at(at));
-            if (tokenKind != END) {
-                at++;
-            }
-            if (tokenKind == LETTERS || tokenKind == DIGITS) {
-                while (at < tape.size() && kindOf(tape.at(at)) == tokenKind) {
-                    at++;
-                }
-            }
-            tokenTo = at;
-        }
-
-        private static int kindOf(int sign) {
-            if (sign == NONE) {
-                return END;
-            }
-            if (sign >= 'a' && sign <= 'z') {
-                return LETTERS;
-            }
-            return sign >= '0' && sign <= '9' ? DIGITS : SIGN;
+            return taken;
         }
     }
 

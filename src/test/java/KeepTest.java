@@ -42,7 +42,8 @@ public final class KeepTest {
         x.offer(20 * n, 1, n, n);
         x.year(0, 10, n);
         x.year(1, 100 * n, 3);
-        x.ripple(n, 2, 3 + n);
+        x.ripple(1, n, 3 + n);
+        x.ripple(2, n, 4 + n);
         Tapes.law(x, n == 1 ? "wake 5;made 7;grow 200" : "made 3 if humps = 2;log 9");
     }
 

@@ -160,7 +160,8 @@ public final class LakeTest {
         C.due("of(0, 9)", x.of(0, 9), -1);
         C.due("of(1, 0)", x.of(1, 0), -1);
         C.due("of(-1, 0)", x.of(-1, 0), -1);
-        for (int n = 1; n < 40; n++) {
+        C.due("the last day", x.sight(59, 0, 0, 0, 0, 1, 59), 1);
+        for (int n = 2; n < 40; n++) {
             C.due("sight", x.sight(0, n, 0, 0, 0, 1, 0), n);
         }
         C.refused("a 41st sight", x, now(x), x.sight(0, 0, 0, 0, 0, 1, 0), -5);
@@ -315,6 +316,7 @@ public final class LakeTest {
         C.due("span by one's own", x.span(1, 0), 1);
         C.due("span by one's own, greatest", x.span(1, 1), 1);
         C.due("span of the other stays", x.span(0, 1), 57);
+        C.due("span of the other stays, least", x.span(0, 0), 22);
         Tapes.law(x, "grow 1");
         C.due("span when it grew least", x.span(0, 1), 5775);
         Tapes.law(x, "grow 300");

@@ -50,6 +50,13 @@ public final class YearTest {
         x.year(0, 1000, 0);
         C.due("the most of nothing new", x.more(29, 0, 0), 1000000);
         C.due("the least of more", x.more(29, 0, 1), -1000000);
+        x.year(0, 10, 4);
+        x.year(1, 30, 20);
+        C.due("by the first", x.more(0, 1, 0), 12);
+        C.due("more, by the first", x.more(0, 1, 1), 8);
+        C.due("grew(0), the last", x.grew(0), 29);
+        x.year(29, 1, 8);
+        C.due("grew(0), the second", x.grew(0), 1);
         int[][] without = {{-1, 0, 0}, {30, 0, 0}, {29, -1, 0}, {29, 30, 0}, {29, 0, -1}, {29, 0, 2}};
         for (int[] w : without) {
             C.due("more(" + w[0] + ", " + w[1] + ", " + w[2] + ")", x.more(w[0], w[1], w[2]), -10000000);
