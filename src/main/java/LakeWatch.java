@@ -1578,15 +1578,21 @@ public final class LakeWatch {
         int saysOf(Lake lake, Scales scales, int set) {
             int sum = 0;
             for (int story = 0; story < lake.stories.size(); story++) {
-                int left = MILLION;
-                for (int offer = 0; offer < lake.offers.size(); offer++) {
-                    if (((set >> offer) & 1) == 1) {
-                        left = silentAfter(lake, offer, story, left);
-                    }
-                }
-                sum += share(scales.oddsOf(story), left);
+                sum += share(scales.oddsOf(story), silentBy(lake, set, story));
             }
             return sum;
+        }
+
+        private static int silentBy(Lake lake, int set, int story) {
+            int left = MILLION;
+            for (int offer = 0; offer < lake.offers.size(); offer++) {
+                if (((set >> offer) & 1) == 1) {
+                    int times = lake.heardOf(story, lake.offers.get(offer, Lake.LEAST));
+                    int missed = 100 - lake.offers.get(offer, Lake.PART);
+                    left = silentAfter(left, times, missed, 100 - lake.offers.get(offer, Lake.FALSELY));
+                }
+            }
+            return left;
         }
 
         int bestFor(Lake lake, Scales scales, int coins) {
@@ -1609,13 +1615,20 @@ public final class LakeWatch {
             for (int story = 0; story < lake.stories.size(); story++) {
                 int odds = scales.oddsOf(story);
                 for (int offer = 0; offer < lake.offers.size(); offer++) {
-                    int bit = 1 << offer;
-                    for (int rest = 0; rest < bit && rest + bit < SETS; rest++) {
-                        int left = silentAfter(lake, offer, story, silent[rest]);
-                        silent[rest + bit] = left;
-                        said[rest + bit] += share(odds, left);
-                    }
+                    sayWith(lake, offer, story, odds);
                 }
+            }
+        }
+
+        private void sayWith(Lake lake, int offer, int story, int odds) {
+            int bit = 1 << offer;
+            int times = lake.heardOf(story, lake.offers.get(offer, Lake.LEAST));
+            int missed = 100 - lake.offers.get(offer, Lake.PART);
+            int quiet = 100 - lake.offers.get(offer, Lake.FALSELY);
+            for (int rest = 0; rest < bit && rest + bit < SETS; rest++) {
+                int left = silentAfter(silent[rest], times, missed, quiet);
+                silent[rest + bit] = left;
+                said[rest + bit] += share(odds, left);
             }
         }
 
@@ -1629,14 +1642,12 @@ public final class LakeWatch {
             }
         }
 
-        private static int silentAfter(Lake lake, int offer, int story, int before) {
-            int times = lake.heardOf(story, lake.offers.get(offer, Lake.LEAST));
-            int missed = 100 - lake.offers.get(offer, Lake.PART);
+        private static int silentAfter(int before, int times, int missed, int quiet) {
             int left = before;
-            for (int n = 0; n < times; n++) {
+            for (int n = 0; n < times && left > 0; n++) {
                 left = left * missed / 100;
             }
-            return left * (100 - lake.offers.get(offer, Lake.FALSELY)) / 100;
+            return left * quiet / 100;
         }
 
         private static int share(int odds, int left) {
