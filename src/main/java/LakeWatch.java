@@ -1422,11 +1422,11 @@ public final class LakeWatch {
         // From here on up all limbs are 0.
         private int used = 0;
 
+        /** A number from 0 on that is below BASE. */
         void become(int number) {
             Arrays.fill(limbs, 0L);
-            limbs[0] = number % BASE;
-            limbs[1] = number / BASE;
-            used = 2;
+            limbs[0] = number;
+            used = 1;
         }
 
         void become(Natural other) {

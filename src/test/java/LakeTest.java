@@ -325,6 +325,13 @@ public final class LakeTest {
         C.due("span(-1, 0)", x.span(-1, 0), -1);
         C.due("span(0, 2)", x.span(0, 2), -1);
         C.due("span(0, -1)", x.span(0, -1), -1);
+        LakeWatch z = new LakeWatch();
+        z.watcher(0);
+        z.sight(0, 0, 0, 0, 0, 100, 0);
+        z.watcher(0);
+        z.pole(0, 1, 2);
+        z.pole(1, 1, 4);
+        C.due("span by one's only pole", z.span(0, 0), 50);
         LakeWatch y = new LakeWatch();
         y.watcher(0);
         y.sight(0, 0, 0, 0, 0, 200, 0);

@@ -12,6 +12,7 @@ public final class LawTest {
         weights();
         unknownAndMost();
         theOneBeforeStays();
+        manyLaws();
         C.done();
     }
 
@@ -318,7 +319,26 @@ public final class LawTest {
         Tapes.law(x, "log 5; bent 6; made 6");
         C.due("most(3), the lowest of alike ones", x.most(3), 2);
         C.due("most(4) without a rival", x.most(4), 3);
+        x.boat(2, 0, 0, 1);
+        x.sight(2, 10, 5, 0, 0, 3, 2);
+        Tapes.law(x, "wake 2; made 1; bent 2");
+        C.due("most(0)", x.most(0), 1);
         C.due("none is refused", x.count(11), 0);
+    }
+
+    /** What an earlier law, or one that was broken when it was asked, leaves behind must not count. */
+    private static void manyLaws() {
+        LakeWatch x = asked();
+        for (int n = 1; n <= 40; n++) {
+            C.due("a long law, the " + n + "th", Tapes.law(x, "grow " + n + often("+0", 49)), 1);
+            C.due("grew by it", x.of(0, 8), n);
+        }
+        Tapes.law(x, "made 1+2+[3*[1/0]]");
+        for (int n = 0; n < 80; n++) {
+            C.due("a broken one", x.unknown(0, 0), 1);
+        }
+        Tapes.law(x, "made 1+2+3");
+        C.due("a sound one", x.odds(0, 4, 0), 1);
     }
 
     private static void theOneBeforeStays() {

@@ -107,6 +107,17 @@ public final class StoryTest {
             y.story(100, 20, 60);
         }
         C.due("the greatest counts", y.likely(5), 166666);
+        LakeWatch z = new LakeWatch();
+        z.story(1, 19, 60);
+        z.story(1, 20, 60);
+        z.sweep(99, 1, 0, 1);
+        C.due("less than the half by a millionth of a millionth of a ..", z.likely(0), 499999);
+        C.due("and more than the half", z.likely(1), 500000);
+        LakeWatch w = new LakeWatch();
+        w.story(50, 8, 10);
+        w.story(50, 8, 10);
+        w.sweep(90, 1, 0, 0);
+        C.due("halves of a whole that has a digit more", w.likely(0), 500000);
     }
 
     private static void moved() {

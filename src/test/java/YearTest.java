@@ -7,7 +7,9 @@ public final class YearTest {
         pictures();
         refusedWorlds();
         worlds();
-        aWorldByHand();
+        for (int seed = 0; seed < 300; seed++) {
+            aWorldByHand(seed * 3331);
+        }
         C.done();
     }
 
@@ -73,6 +75,7 @@ public final class YearTest {
         }
         C.due("ripple(9, 5, 99)", x.ripple(9, 5, 99), 0);
         C.due("ripple(0, 7, 7)", x.ripple(0, 7, 7), 0);
+        C.due("ripple(5, 99, 99)", x.ripple(5, 99, 99), 0);
         x.day(59, 0, 9);
         C.due("picture, from", x.picture(59, 50, 0), 250);
         C.due("picture, to", x.picture(59, 50, 1), 51 * 99);
@@ -134,7 +137,7 @@ public final class YearTest {
     }
 
     /** Every draw told apart, by the rule of the document, and not by the class. */
-    private static void aWorldByHand() {
+    private static void aWorldByHand(int seed) {
         LakeWatch x = new LakeWatch();
         int[] care = {40, 60, 95};
         int[][] seen = new int[3][3];
@@ -149,7 +152,7 @@ public final class YearTest {
                 x.boat(day, day % 2, 1000, 5);
             }
         }
-        long s = 4711;
+        long s = seed;
         int looked = 0;
         for (int day = 0; day < 40; day++) {
             for (int w = 0; w < 3; w++) {
@@ -169,13 +172,15 @@ public final class YearTest {
                 }
             }
         }
-        C.due("looked", x.run(0, 40, 4711), looked);
+        C.due("looked", x.run(0, 40, seed), looked);
         for (int what = 0; what < 3; what++) {
             for (int w = 0; w < 3; w++) {
                 C.due("world(" + what + ", " + w + ")", x.world(what, w), seen[w][what]);
             }
             C.due("world(" + what + ", -1)", x.world(what, -1), seen[0][what] + seen[1][what] + seen[2][what]);
         }
-        C.due("some of each", seen[0][0] > 0 && seen[2][1] > 0 && seen[2][2] > 0 ? 1 : 0, 1);
+        if (seed == 3331) {
+            C.due("some of each", seen[0][0] > 0 && seen[2][1] > 0 && seen[2][2] > 0 ? 1 : 0, 1);
+        }
     }
 }
