@@ -24,7 +24,7 @@ final class Tapes {
         return x.law();
     }
 
-    /** What one sum tells of a sight, asked as the odds of "made" against a joke of one more. */
+    /** What a law of this one sum (and its test) tells of a sight: hundredths that it grew. */
     static int grewBy(LakeWatch x, int sight, String sumAndTest) {
         law(x, "grow " + sumAndTest);
         return x.of(sight, 8);
