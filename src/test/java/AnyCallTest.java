@@ -1,42 +1,54 @@
+import java.util.ArrayList;
+import java.util.List;
 import java.util.Random;
 
 /** Any arguments in any state: no call throws or fails to end, and the same calls give the same answers. */
 public final class AnyCallTest {
     private static final Check C = new Check("AnyCallTest");
     private static final int CALLS = 39;
+    private static final int MOST_CALLS_OF_A_TEXT = 23;
     private static final String[] TOKENS = {"wake", "beast", "log", "bent", "made", "grow", "if", "not", "and", "or", "(",
         ")", "[", "]", "<", ">", "=", "+", "-", "*", "/", ";", "humps", "length", "wind", "bend", "news", "gone", "place",
         "minute", "late", "0", "1", "7", "100000", "100001", " ", "x", "\u00e9"};
 
     public static void main(String[] args) {
         for (int seed = 0; seed < 300; seed++) {
-            int[] first = answers(seed);
-            int[] second = answers(seed);
-            for (int i = 0; i < first.length; i++) {
-                C.due("seed " + seed + ", call " + i, second[i], first[i]);
+            List<Integer> first = answers(seed);
+            List<Integer> second = answers(seed);
+            for (int i = 0; i < first.size(); i++) {
+                C.due("seed " + seed + ", answer " + i, second.get(i), first.get(i));
             }
         }
         C.done();
     }
 
-    private static int[] answers(int seed) {
+    /** Of one object, which is used for so many calls as it may be, and for no more. */
+    private static List<Integer> answers(int seed) {
         Random random = new Random(seed);
         LakeWatch x = new LakeWatch();
-        int[] answers = new int[512];
-        for (int i = 0; i < answers.length; i++) {
-            answers[i] = random.nextInt(8) == 0 ? text(x, random) : call(x, random, seed % 3 == 0);
+        List<Integer> answers = new ArrayList<>();
+        int left = Run.MOST_CALLS;
+        while (left > 0) {
+            boolean isText = left > MOST_CALLS_OF_A_TEXT && random.nextInt(8) == 0;
+            left -= isText ? text(x, random, answers) : 1;
+            if (!isText) {
+                answers.add(call(x, random, seed % 3 == 0));
+            }
         }
         return answers;
     }
 
-    private static int text(LakeWatch x, Random random) {
+    /** How many calls it took. */
+    private static int text(LakeWatch x, Random random, List<Integer> answers) {
         StringBuilder text = new StringBuilder();
         for (int n = random.nextInt(90); n > 0; n--) {
             text.append(TOKENS[random.nextInt(TOKENS.length)]).append(random.nextBoolean() ? " " : "");
         }
+        String cut = text.substring(0, Math.min(400, text.length()));
         x.end(0);
-        Tapes.put(x, text.substring(0, Math.min(400, text.length())));
-        return x.law();
+        Tapes.put(x, cut);
+        answers.add(x.law());
+        return 1 + Tapes.calls(cut).size() + 1;
     }
 
     private static int number(Random random, boolean wild) {

@@ -6,10 +6,6 @@ import java.util.Random;
 /** Promises 13, 15, 17, 23, 24, 28 and 29 again, on many made-up lakes, against sums made another way. */
 public final class ModelTest {
     private static final Check C = new Check("ModelTest");
-    private static final String[] NAMES =
-        {"humps", "length", "wind", "bend", "news", "gone", "place", "minute", "late"};
-    private static final String[] HEADS = {"wake", "beast", "log", "bent", "made", "grow"};
-
     public static void main(String[] args) {
         for (int seed = 0; seed < 3000; seed++) {
             laws(new Random(seed));
@@ -50,9 +46,9 @@ public final class ModelTest {
         int clauses = 1 + random.nextInt(3);
         for (int n = 0; n < clauses; n++) {
             int head = random.nextInt(2) == 0 ? 5 : random.nextInt(6);
-            Model.Tree sum = Model.sum(random, NAMES, 1 + random.nextInt(2));
-            Model.Tree test = random.nextInt(3) == 0 ? null : Model.test(random, NAMES, 2);
-            text.append(n == 0 ? "" : ";").append(HEADS[head]).append(' ').append(sum.text());
+            Model.Tree sum = Model.sum(random, LawTexts.NAMES, 1 + random.nextInt(2));
+            Model.Tree test = random.nextInt(3) == 0 ? null : Model.test(random, LawTexts.NAMES, 2);
+            text.append(n == 0 ? "" : ";").append(LawTexts.HEADS[head]).append(' ').append(sum.text());
             if (test != null) {
                 text.append(" if ").append(test.text());
             }
@@ -78,8 +74,8 @@ public final class ModelTest {
 
     private static void hear(long[] tells, int head, Model.Tree sum, Model.Tree test, long[] words) {
         try {
-            if (test == null || test.ask(NAMES, words) == 1) {
-                tells[head] = Math.max(head == 5 ? 1 : 0, Math.min(1000, sum.ask(NAMES, words)));
+            if (test == null || test.ask(LawTexts.NAMES, words) == 1) {
+                tells[head] = Math.max(head == 5 ? 1 : 0, Math.min(1000, sum.ask(LawTexts.NAMES, words)));
             }
         } catch (Model.Broken broken) {
             // The clause does not hold, so nothing is told.
@@ -89,7 +85,7 @@ public final class ModelTest {
     private static int partsOf(String text) {
         int parts = 0;
         for (String token : text.split("[^a-z0-9]+")) {
-            boolean isPart = token.matches("[0-9]+") || java.util.Arrays.asList(NAMES).contains(token);
+            boolean isPart = token.matches("[0-9]+") || java.util.Arrays.asList(LawTexts.NAMES).contains(token);
             parts += isPart ? 1 : 0;
         }
         return parts;
